@@ -363,6 +363,15 @@ public final class MarbleHeirs {
         return colour >= 0 && colour < COLOURS;
     }
 
+    /** Moves a number of a row to a later place of it; those between come one place ahead. */
+    private static void moveBack(int[] row, int from, int to) {
+        int moved = row[from];
+        for (int i = from; i < to; i++) {
+            row[i] = row[i + 1];
+        }
+        row[to] = moved;
+    }
+
     private int swapError(int heir, int marble, int other, int place) {
         if (!now.hasMarble(heir, marble) || !now.hasMarble(other, place)) {
             return NO_SUCH;
@@ -482,7 +491,7 @@ public final class MarbleHeirs {
         void removeBag(int heir) {
             int size = count(heir);
             for (int i = 0; i < size; i++) {
-                moveToEnd(starts[heir]);
+                moveBack(row, starts[heir], starts[END_OF_ALL] - 1);
             }
             for (int holder = heir + 1; holder <= HOPPER; holder++) {
                 starts[holder] -= size;
@@ -490,15 +499,6 @@ public final class MarbleHeirs {
             for (int holder = heir + 1; holder < HOPPER; holder++) {
                 starts[holder] = starts[holder + 1];
             }
-        }
-
-        private void moveToEnd(int place) {
-            int marble = row[place];
-            int last = starts[END_OF_ALL] - 1;
-            for (int i = place; i < last; i++) {
-                row[i] = row[i + 1];
-            }
-            row[last] = marble;
         }
     }
 
@@ -556,20 +556,14 @@ public final class MarbleHeirs {
 
         void removeHeir(int heir) {
             marbles.removeBag(heir);
-            closeGap(order, placeOf(heir));
-            closeGap(mothers, heir);
-            closeGap(wishes, heir);
+            moveBack(order, placeOf(heir), heirs - 1);
+            moveBack(mothers, heir, heirs - 1);
+            moveBack(wishes, heir, heirs - 1);
             heirs--;
             for (int place = 0; place < heirs; place++) {
                 if (order[place] > heir) {
                     order[place]--;
                 }
-            }
-        }
-
-        private static void closeGap(int[] row, int gap) {
-            for (int i = gap; i + 1 < row.length; i++) {
-                row[i] = row[i + 1];
             }
         }
 
@@ -604,7 +598,7 @@ public final class MarbleHeirs {
                 giveInOrder(number);
             }
             if (number > 0) {
-                firstHeirToEnd();
+                moveBack(order, 0, heirs - 1);
                 roundsMade++;
             }
             return number;
@@ -638,14 +632,6 @@ public final class MarbleHeirs {
                 }
             }
             return poorest;
-        }
-
-        private void firstHeirToEnd() {
-            int first = order[0];
-            for (int place = 1; place < heirs; place++) {
-                order[place - 1] = order[place];
-            }
-            order[heirs - 1] = first;
         }
 
         // ---- swaps

@@ -16,7 +16,9 @@ public final class HeirsTest {
         come();
         leave();
         leaveTurnsTheOrder();
+        leaveOfSix();
         leaveAtTheLimit();
+        leaveOfAFullMachine();
         wish();
         setRule();
         setPatience();
@@ -143,6 +145,44 @@ public final class HeirsTest {
         check.order(x, 1, 0, 2);
         x.leave(2);
         check.order(x, 1, 0);
+    }
+
+    private static void leaveOfSix() {
+        MarbleHeirs x = Check.machine("00 11 22 33 04 15");
+        Check.pour(x, "r1g2b3y4w5k6r7g8b9y1w2k3r4");
+        x.round();
+        x.round();
+        check.due("leave(5)", x.leave(5), 2);
+        check.hopper(x, "r4k6w2");
+        check.bag(x, 4, "w5y1");
+        check.bag(x, 0, "r1k3");
+        check.order(x, 2, 3, 4, 0, 1);
+        x.undo();
+        check.bag(x, 5, "k6w2");
+        check.due("leave(0)", x.leave(0), 2);
+        check.hopper(x, "r4r1k3");
+        check.bag(x, 0, "g2r7");
+        check.bag(x, 4, "k6w2");
+        check.order(x, 1, 2, 3, 4, 0);
+        check.due("heir(4, 0)", x.heir(4, 0), 1);
+        check.due("heir(4, 1)", x.heir(4, 1), 5);
+        check.due("come again", x.come(3, 3), 5);
+        check.due("marbles of the new heir", x.heir(5, 2), 0);
+        check.hopper(x, "r4r1k3");
+    }
+
+    private static void leaveOfAFullMachine() {
+        MarbleHeirs x = Check.machine("00 11 22");
+        for (int i = 0; i < 3; i++) {
+            Check.pour(x, "9r19g19b19y14w1");
+            x.divide();
+        }
+        check.due("total(2)", x.total(2), 120);
+        check.due("leave(1) of 120", x.leave(1), 40);
+        check.due("hopper(39, 0)", x.hopper(39, 0), 4);
+        check.due("hopper(40, 0)", x.hopper(40, 0), NO_SUCH);
+        check.due("drop of the 121st", x.drop(0, 1), LIMIT);
+        check.due("leave(0) with 40 in the hopper", x.leave(0), LIMIT);
     }
 
     private static void leaveAtTheLimit() {

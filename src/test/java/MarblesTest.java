@@ -26,6 +26,7 @@ public final class MarblesTest {
         swapWithoutVetoesLeft();
         swapOfOneMother();
         settle();
+        settleByOne();
         settleWithVetoes();
         check.end();
     }
@@ -342,6 +343,18 @@ public final class MarblesTest {
         check.bag(x, 0, "b1g2");
         check.bag(x, 1, "r1b2");
         check.bag(x, 2, "g1r2");
+    }
+
+    private static void settleByOne() {
+        MarbleHeirs x = Check.machine("00 11");
+        Check.pour(x, "b1r1b2b2r2b3");
+        x.divide();
+        check.bag(x, 0, "b1b2r2");
+        check.bag(x, 1, "r1b2b3");
+        check.due("settle() by a growth of 1", x.settle(), 1);
+        check.bag(x, 0, "r1b2r2");
+        check.bag(x, 1, "b1b2b3");
+        check.due("total(8)", x.total(8), 2);
     }
 
     private static void settleWithVetoes() {

@@ -15,6 +15,7 @@ public final class PredictionsTest {
         bestSwapErrors();
         bestSwap();
         bestSwapTies();
+        bestSwapOfSix();
         bestSwapAndVetoes();
         check.end();
     }
@@ -202,6 +203,17 @@ public final class PredictionsTest {
         best(y, 0, 0, 1, 0, 1);
         y.wish(0, 3);
         best(y, 1, 0, 2, 1, 1);
+    }
+
+    private static void bestSwapOfSix() {
+        MarbleHeirs x = Check.machine("03 13 23 33 04 15");
+        Check.pour(x, "w1w1w1w1k3w4r5k5");
+        x.round();
+        best(x, 4, 0, 5, 0, 2);
+        x.wish(5, 3);
+        best(x, 4, 0, 5, 0, 1);
+        x.wish(4, 3);
+        best(x, NONE, NONE, NONE, NONE, NONE);
     }
 
     private static void bestSwapAndVetoes() {

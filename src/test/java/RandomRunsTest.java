@@ -56,7 +56,7 @@ public final class RandomRunsTest {
 
     private void play() {
         int reading = 150 + random.nextInt(150);
-        while (calls < CALLS - reading) {
+        while (same && calls < CALLS - reading) {
             int call = choose();
             if (call == 24 && random.nextInt(8) > 0) {
                 write();

@@ -14,6 +14,7 @@ public final class ReadingsTest {
         vetoes();
         at();
         total();
+        totalOfSixHeirs();
         totalOfHeirsWithoutMarbles();
         nothingIsRecorded();
         check.end();
@@ -135,6 +136,16 @@ public final class ReadingsTest {
         check.due("total(10)", x.total(10), 5);
         for (int wrong : new int[] {-1, 13, LEAST, MOST}) {
             check.due("total(" + wrong + ")", x.total(wrong), BAD_VALUE);
+        }
+    }
+
+    private static void totalOfSixHeirs() {
+        MarbleHeirs x = Check.machine("00 11 22 33 04 15");
+        Check.pour(x, "r1r2r3r4r5k6r7r8");
+        x.round();
+        int[] due = {6, 2, 6, 15, 21, 1, 0, 0, 2, 0, 5, 0, 2};
+        for (int what = 0; what < due.length; what++) {
+            check.due("total(" + what + ") of six", x.total(what), due[what]);
         }
     }
 

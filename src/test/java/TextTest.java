@@ -150,6 +150,11 @@ public final class TextTest {
         check.due("total(1)", x.total(1), 0);
         check.due("the buffer of the last pour", x.clearText(), 2);
 
+        // A text may fill the buffer.
+        x = new MarbleHeirs();
+        check.due("pour() of 25 items", Check.pour(x, "r1g2b3y4k5".repeat(5)), 25);
+        check.hopper(x, "r1g2b3y4k5".repeat(5));
+
         // The longest text stands for 9 times 16 marbles and a number's one.
         MarbleHeirs y = new MarbleHeirs();
         StringBuilder longest = new StringBuilder();
