@@ -5,12 +5,6 @@ public final class RandomRunsTest {
     private static final int RUNS = 1500;
     private static final int CALLS = 512;
     private static final int CALL_COUNT = 28;
-    private static final String[] NAMES = {
-        "come", "leave", "wish", "setRule", "setPatience", "grant", "drop", "round", "divide",
-        "swap", "settle", "heir", "bag", "hopper", "vetoes", "at", "total", "ifDivided",
-        "fairestRule", "whoVetoes", "bestSwap", "append", "clearText", "errorPosition", "pour",
-        "undo", "save", "restore"};
-
     // How often each call is made, in several kinds of runs.
     private static final int[][] WEIGHTS = {
         // a bit of all
@@ -33,7 +27,7 @@ public final class RandomRunsTest {
         }
         check.topic("the runs themselves");
         for (int call = 0; call < CALL_COUNT; call++) {
-            check.holds(NAMES[call] + " was often answered without an error", good[call] > RUNS / 2);
+            check.holds(Calls.NAMES[call] + " was often answered without an error", good[call] > RUNS / 2);
         }
         check.end();
     }
@@ -145,13 +139,13 @@ public final class RandomRunsTest {
         }
         calls++;
         int due = model.answer(call, a, b, c, d);
-        int got = answer(call, a, b, c, d);
+        int got = Calls.answer(program, call, a, b, c, d);
         if (got >= 0 || got == MarbleHeirs.NONE) {
             good[call]++;
         }
         same = got == due;
         check.topic("run " + run + ", call " + calls);
-        check.due(NAMES[call] + " of " + a + ", " + b + ", " + c + ", " + d, got, due);
+        check.due(Calls.NAMES[call] + " of " + a + ", " + b + ", " + c + ", " + d, got, due);
     }
 
     private void readAll() {
@@ -175,39 +169,6 @@ public final class RandomRunsTest {
             }
             ask(25, 0, 0, 0, 0);
             ask(16, 8, 0, 0, 0);
-        }
-    }
-
-    private int answer(int call, int a, int b, int c, int d) {
-        switch (call) {
-            case 0: return program.come(a, b);
-            case 1: return program.leave(a);
-            case 2: return program.wish(a, b);
-            case 3: return program.setRule(a);
-            case 4: return program.setPatience(a);
-            case 5: return program.grant(a, b);
-            case 6: return program.drop(a, b);
-            case 7: return program.round();
-            case 8: return program.divide();
-            case 9: return program.swap(a, b, c, d);
-            case 10: return program.settle();
-            case 11: return program.heir(a, b);
-            case 12: return program.bag(a, b, c);
-            case 13: return program.hopper(a, b);
-            case 14: return program.vetoes(a);
-            case 15: return program.at(a);
-            case 16: return program.total(a);
-            case 17: return program.ifDivided(a, b);
-            case 18: return program.fairestRule();
-            case 19: return program.whoVetoes(a, b, c, d);
-            case 20: return program.bestSwap(a);
-            case 21: return program.append(a);
-            case 22: return program.clearText();
-            case 23: return program.errorPosition();
-            case 24: return program.pour();
-            case 25: return program.undo();
-            case 26: return program.save();
-            default: return program.restore();
         }
     }
 }

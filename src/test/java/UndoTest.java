@@ -37,30 +37,6 @@ public final class UndoTest {
         check.hopper(x, "r1r2r3");
     }
 
-    /** All readings of a machine, one behind the other. */
-    private static String readings(MarbleHeirs x) {
-        StringBuilder all = new StringBuilder();
-        for (int what = 0; what <= 12; what++) {
-            all.append(x.total(what)).append(' ');
-        }
-        for (int mother = 0; mother < 4; mother++) {
-            all.append(x.vetoes(mother)).append(' ');
-        }
-        for (int place = 0; x.hopper(place, 0) >= 0; place++) {
-            all.append(x.hopper(place, 0)).append(x.hopper(place, 1)).append(' ');
-        }
-        for (int heir = 0; x.heir(heir, 0) >= 0; heir++) {
-            all.append(" / ").append(x.at(heir));
-            for (int part = 0; part <= 5; part++) {
-                all.append(' ').append(x.heir(heir, part));
-            }
-            for (int place = 0; x.bag(heir, place, 0) >= 0; place++) {
-                all.append(' ').append(x.bag(heir, place, 0)).append(x.bag(heir, place, 1));
-            }
-        }
-        return all.toString();
-    }
-
     private static MarbleHeirs example() {
         MarbleHeirs x = Check.machine("00 11 22");
         Check.pour(x, "g9r1b4r3k6");
@@ -73,10 +49,10 @@ public final class UndoTest {
     private static void undoBringsAllBack() {
         for (int call = 0; call < 14; call++) {
             MarbleHeirs x = example();
-            String ahead = readings(x);
+            String ahead = Calls.readings(x);
             check.holds("call " + call + " is no error", callOf(x, call) >= 0 || call == 9);
             check.due("undo() of call " + call, x.undo(), 4);
-            String behind = readings(x);
+            String behind = Calls.readings(x);
             check.holds("call " + call + " is undone: " + ahead + " | " + behind,
                     ahead.equals(behind));
         }
@@ -174,16 +150,16 @@ public final class UndoTest {
 
     private static void restoreBringsAllBack() {
         MarbleHeirs x = example();
-        String saved = readings(x);
+        String saved = Calls.readings(x);
         x.save();
         for (int call = 0; call < 13; call++) {
             callOf(x, call);
         }
         x.restore();
-        check.holds("all is as it was saved", saved.equals(readings(x)));
+        check.holds("all is as it was saved", saved.equals(Calls.readings(x)));
         callOf(x, 9);
         x.leave(1);
         x.restore();
-        check.holds("it remains saved as it was", saved.equals(readings(x)));
+        check.holds("it remains saved as it was", saved.equals(Calls.readings(x)));
     }
 }
